@@ -1,0 +1,460 @@
+/** Each promise of the document on its own: ordinary inputs, the edges it names, and wrong inputs. */
+public final class PromisesTest {
+    private static final int MIN = Integer.MIN_VALUE;
+    private static final int MAX = Integer.MAX_VALUE;
+    private static final int ALL_SOURCES = 0;
+    private static final int ALL_GOALS = 56;
+    private static final int ALL_PORTS = 56;
+    private static final int[] NO_RULE = {MIN, -4, -1, 10, 11, MAX};
+    private static final int[] NO_PACKET = {MIN, -4, -1, 1024, 1025, MAX};
+
+    private static int wrong = 0;
+
+    private static void due(String call, int got, int want) {
+        if (got != want) {
+            wrong++;
+            System.out.println(call + " answered " + got + ", due is " + want);
+        }
+    }
+
+    private static int packet(int source, int goal, int port) {
+        return 64 * source + 8 * goal + port;
+    }
+
+    private static int prefix(int value, int length) {
+        return value + 16 * length;
+    }
+
+    private static int range(int lo, int hi) {
+        return lo + 8 * hi;
+    }
+
+    private static int ports(int lo, int hi, int action) {
+        return lo + 8 * hi + 64 * action;
+    }
+
+    /** An object whose rule r holds just for packet r, with action r mod 4. */
+    private static PacketClassifier single(int rules) {
+        PacketClassifier x = new PacketClassifier();
+        for (int r = 0; r < rules; r++) {
+            int goal = r / 8;
+            int port = r % 8;
+            x.insert(r, prefix(0, 4), range(goal, goal), ports(port, port, r % 4));
+        }
+        return x;
+    }
+
+    /** Tells which rule of single() stands at which number: packet was[i] must now be decided by rule i. */
+    private static void dueOrder(String when, PacketClassifier x, int... was) {
+        due(when + ", rules()", x.rules(), was.length);
+        for (int r = 0; r < was.length; r++) {
+            due(when + ", decide(" + was[r] + ")", x.decide(was[r]), r);
+            due(when + ", action(" + was[r] + ")", x.action(was[r]), was[r] % 4);
+            due(when + ", next(" + r + ", 0)", x.next(r, 0), was[r]);
+            due(when + ", reach(" + r + ")", x.reach(r), 1);
+        }
+        due(when + ", undecided()", x.undecided(), 1024 - was.length);
+    }
+
+    private static void constants() {
+        due("BAD_ARG", PacketClassifier.BAD_ARG, -1);
+        due("FULL", PacketClassifier.FULL, -2);
+        due("NONE", PacketClassifier.NONE, -4);
+    }
+
+    private static void promise1NewObject() {
+        PacketClassifier x = new PacketClassifier();
+        due("new: rules()", x.rules(), 0);
+        due("new: undecided()", x.undecided(), 1024);
+        due("new: idle()", x.idle(), 0);
+        due("new: deepest()", x.deepest(), 0);
+        due("new: decide(0)", x.decide(0), -4);
+        due("new: action(1023)", x.action(1023), -4);
+        due("new: holding(512)", x.holding(512), 0);
+        due("new: reach(0)", x.reach(0), -4);
+        due("new: decided(0)", x.decided(0), -4);
+        due("new: weight(0)", x.weight(0), -4);
+        due("new: next(0, 0)", x.next(0, 0), -4);
+        due("new: remove(0)", x.remove(0), -4);
+        due("new: swap(0, 0)", x.swap(0, 0), -4);
+        for (int action = 0; action < 4; action++) {
+            due("new: acted(" + action + ")", x.acted(action), 0);
+        }
+        PacketClassifier y = single(3);
+        due("another object: rules()", y.rules(), 3);
+        due("new, after another was filled: rules()", x.rules(), 0);
+        due("new, after another was filled: decide(0)", x.decide(0), -4);
+    }
+
+    private static void promise2InsertMovesTheRest() {
+        PacketClassifier x = new PacketClassifier();
+        due("insert at 0", x.insert(0, prefix(0, 4), range(0, 0), ports(2, 2, 2)), 1);
+        due("insert at the end", x.insert(1, prefix(0, 4), range(0, 0), ports(3, 3, 3)), 2);
+        due("insert at the front", x.insert(0, prefix(0, 4), range(0, 0), ports(0, 0, 0)), 3);
+        due("insert between", x.insert(1, prefix(0, 4), range(0, 0), ports(1, 1, 1)), 4);
+        dueOrder("after four inserts", x, 0, 1, 2, 3);
+        due("insert at 2", x.insert(2, prefix(0, 4), range(0, 0), ports(7, 7, 3)), 5);
+        dueOrder("after the fifth", x, 0, 1, 7, 2, 3);
+    }
+
+    private static void promise2EveryPrefix() {
+        for (int value = 0; value < 16; value++) {
+            for (int length = 0; length <= 4; length++) {
+                PacketClassifier x = new PacketClassifier();
+                int prefix = prefix(value, length);
+                due("insert prefix " + prefix, x.insert(0, prefix, range(3, 3), ports(5, 5, 1)), 1);
+                String head = digits(value).substring(0, length);
+                for (int source = 0; source < 16; source++) {
+                    int want = digits(source).startsWith(head) ? 1 : 0;
+                    due("prefix " + prefix + " on source " + source, x.holding(packet(source, 3, 5)), want);
+                }
+                due("prefix " + prefix + ": reach(0)", x.reach(0), 1 << (4 - length));
+            }
+        }
+    }
+
+    private static String digits(int source) {
+        return Integer.toBinaryString(16 + source).substring(1);
+    }
+
+    private static void promise2EveryRangeAndAction() {
+        for (int lo = 0; lo < 8; lo++) {
+            for (int hi = 0; hi < 8; hi++) {
+                oneRangeOfGoals(lo, hi);
+                for (int action = 0; action < 4; action++) {
+                    oneRangeOfPorts(lo, hi, action);
+                }
+            }
+        }
+    }
+
+    private static void oneRangeOfGoals(int lo, int hi) {
+        PacketClassifier x = new PacketClassifier();
+        String call = "insert goals " + lo + " to " + hi;
+        due(call, x.insert(0, prefix(9, 4), range(lo, hi), ports(2, 2, 0)), lo <= hi ? 1 : -1);
+        due(call + ": rules()", x.rules(), lo <= hi ? 1 : 0);
+        for (int goal = 0; goal < 8; goal++) {
+            int want = lo <= goal && goal <= hi ? 1 : 0;
+            due(call + ", goal " + goal, x.holding(packet(9, goal, 2)), want);
+        }
+    }
+
+    private static void oneRangeOfPorts(int lo, int hi, int action) {
+        PacketClassifier x = new PacketClassifier();
+        String call = "insert ports " + lo + " to " + hi + ", action " + action;
+        due(call, x.insert(0, prefix(6, 4), range(4, 4), ports(lo, hi, action)), lo <= hi ? 1 : -1);
+        due(call + ": rules()", x.rules(), lo <= hi ? 1 : 0);
+        for (int port = 0; port < 8; port++) {
+            int want = lo <= port && port <= hi ? action : -4;
+            due(call + ", port " + port, x.action(packet(6, 4, port)), want);
+        }
+    }
+
+    private static void promise2Refusals() {
+        PacketClassifier x = single(3);
+        int whole = ports(0, 7, 0);
+        for (int at : new int[] {MIN, -1, 4, 5, 10, 11, MAX}) {
+            due("insert at " + at, x.insert(at, ALL_SOURCES, ALL_GOALS, whole), -1);
+        }
+        for (int prefix : new int[] {MIN, -16, -1, 80, 96, MAX}) {
+            due("insert prefix " + prefix, x.insert(0, prefix, ALL_GOALS, whole), -1);
+        }
+        for (int goals : new int[] {MIN, -8, -1, 1, 55, 64, 64 + ALL_GOALS, MAX}) {
+            due("insert goals " + goals, x.insert(0, ALL_SOURCES, goals, whole), -1);
+        }
+        for (int ports : new int[] {MIN, -8, -1, 1, 55, 65, 247, 256, 256 + ALL_PORTS, MAX}) {
+            due("insert ports " + ports, x.insert(0, ALL_SOURCES, ALL_GOALS, ports), -1);
+        }
+        dueOrder("after refused inserts", x, 0, 1, 2);
+    }
+
+    private static void promise2Full() {
+        PacketClassifier x = single(10);
+        int whole = ports(0, 7, 0);
+        for (int at = 0; at <= 10; at++) {
+            due("full: insert at " + at, x.insert(at, ALL_SOURCES, ALL_GOALS, whole), -2);
+        }
+        due("full: insert at 11", x.insert(11, ALL_SOURCES, ALL_GOALS, whole), -1);
+        due("full: insert at -1", x.insert(-1, ALL_SOURCES, ALL_GOALS, whole), -1);
+        due("full: insert prefix 80", x.insert(0, 80, ALL_GOALS, whole), -1);
+        due("full: insert goals 1", x.insert(0, ALL_SOURCES, 1, whole), -1);
+        due("full: insert goals 64", x.insert(0, ALL_SOURCES, 64, whole), -1);
+        due("full: insert ports 1", x.insert(0, ALL_SOURCES, ALL_GOALS, 1), -1);
+        due("full: insert ports 256", x.insert(0, ALL_SOURCES, ALL_GOALS, 256), -1);
+        dueOrder("after inserts into a full one", x, 0, 1, 2, 3, 4, 5, 6, 7, 8, 9);
+        due("full: remove(9)", x.remove(9), 9);
+        due("room again: insert", x.insert(0, prefix(0, 4), range(1, 1), ports(1, 1, 1)), 10);
+        dueOrder("after the tenth at the front", x, 9, 0, 1, 2, 3, 4, 5, 6, 7, 8);
+    }
+
+    private static void promise3Remove() {
+        PacketClassifier x = single(10);
+        for (int r : NO_RULE) {
+            due("remove(" + r + ")", x.remove(r), -4);
+        }
+        dueOrder("after refused removes", x, 0, 1, 2, 3, 4, 5, 6, 7, 8, 9);
+        due("remove(0), the first", x.remove(0), 9);
+        due("remove(8), the last", x.remove(8), 8);
+        due("remove(8), gone", x.remove(8), -4);
+        due("remove(3), a middle one", x.remove(3), 7);
+        dueOrder("after three removes", x, 1, 2, 3, 5, 6, 7, 8);
+        due("decide of a removed rule's packet", x.decide(4), -4);
+        for (int left = 6; left >= 0; left--) {
+            due("remove(0) leaves", x.remove(0), left);
+        }
+        due("remove(0), none left", x.remove(0), -4);
+        due("rules(), none left", x.rules(), 0);
+    }
+
+    private static void promise4Swap() {
+        PacketClassifier x = single(5);
+        due("swap(1, 3)", x.swap(1, 3), 0);
+        dueOrder("after swap(1, 3)", x, 0, 3, 2, 1, 4);
+        due("swap(4, 0)", x.swap(4, 0), 0);
+        dueOrder("after swap(4, 0)", x, 4, 3, 2, 1, 0);
+        due("swap(2, 2)", x.swap(2, 2), 0);
+        for (int r : new int[] {MIN, -4, -1, 5, 9, 10, MAX}) {
+            due("swap(" + r + ", 0)", x.swap(r, 0), -4);
+            due("swap(0, " + r + ")", x.swap(0, r), -4);
+            due("swap(" + r + ", " + r + ")", x.swap(r, r), -4);
+        }
+        dueOrder("after refused swaps", x, 4, 3, 2, 1, 0);
+    }
+
+    /** A swap must carry the whole of a rule: here the rules differ in each part. */
+    private static void promise4SwapCarriesAllParts() {
+        PacketClassifier x = new PacketClassifier();
+        x.insert(0, prefix(8, 1), range(1, 3), ports(2, 5, 1));
+        x.insert(1, prefix(4, 2), range(5, 7), ports(0, 1, 2));
+        due("swap(0, 1)", x.swap(0, 1), 0);
+        due("reach(0)", x.reach(0), 4 * 3 * 2);
+        due("reach(1)", x.reach(1), 8 * 3 * 4);
+        due("next(0, 0)", x.next(0, 0), packet(4, 5, 0));
+        due("next(1, 0)", x.next(1, 0), packet(8, 1, 2));
+        due("action of rule 0", x.action(packet(7, 7, 1)), 2);
+        due("action of rule 1", x.action(packet(15, 3, 5)), 1);
+    }
+
+    private static void promise5Rules() {
+        PacketClassifier x = new PacketClassifier();
+        for (int n = 0; n < 10; n++) {
+            due("rules()", x.rules(), n);
+            due("insert", x.insert(n, ALL_SOURCES, ALL_GOALS, ports(0, 7, 0)), n + 1);
+        }
+        due("rules(), full", x.rules(), 10);
+    }
+
+    /** Rule 0 inside rule 1 inside rule 2, and beside them packets that none holds for. */
+    private static PacketClassifier nested() {
+        PacketClassifier x = new PacketClassifier();
+        x.insert(0, prefix(15, 4), range(7, 7), ports(7, 7, 3));
+        x.insert(1, prefix(12, 2), range(6, 7), ports(6, 7, 0));
+        x.insert(2, prefix(8, 1), range(4, 7), ports(4, 7, 2));
+        return x;
+    }
+
+    private static void promises6To8OnePacket() {
+        PacketClassifier x = nested();
+        duePacket(x, packet(15, 7, 7), 0, 3, 7);
+        duePacket(x, packet(15, 7, 6), 1, 0, 6);
+        duePacket(x, packet(15, 6, 7), 1, 0, 6);
+        duePacket(x, packet(12, 6, 6), 1, 0, 6);
+        duePacket(x, packet(11, 7, 7), 2, 2, 4);
+        duePacket(x, packet(12, 5, 6), 2, 2, 4);
+        duePacket(x, packet(8, 4, 4), 2, 2, 4);
+        duePacket(x, packet(7, 7, 7), -4, -4, 0);
+        duePacket(x, packet(8, 3, 4), -4, -4, 0);
+        duePacket(x, packet(8, 4, 3), -4, -4, 0);
+        duePacket(x, 0, -4, -4, 0);
+    }
+
+    private static void duePacket(PacketClassifier x, int p, int decider, int action, int set) {
+        due("nested: decide(" + p + ")", x.decide(p), decider);
+        due("nested: action(" + p + ")", x.action(p), action);
+        due("nested: holding(" + p + ")", x.holding(p), set);
+    }
+
+    private static void promise8AllTen() {
+        PacketClassifier x = new PacketClassifier();
+        for (int r = 0; r < 10; r++) {
+            x.insert(r, prefix(5, 4), range(2, 2), ports(6, 6, 1));
+        }
+        due("ten: holding", x.holding(packet(5, 2, 6)), 1023);
+        due("ten: holding beside", x.holding(packet(5, 2, 7)), 0);
+        due("ten: deepest()", x.deepest(), 10);
+        due("ten: idle()", x.idle(), 9);
+    }
+
+    private static void promises9To13Counts() {
+        PacketClassifier x = nested();
+        due("nested: reach(0)", x.reach(0), 1);
+        due("nested: reach(1)", x.reach(1), 16);
+        due("nested: reach(2)", x.reach(2), 128);
+        due("nested: decided(0)", x.decided(0), 1);
+        due("nested: decided(1)", x.decided(1), 15);
+        due("nested: decided(2)", x.decided(2), 112);
+        due("nested: undecided()", x.undecided(), 896);
+        due("nested: acted(0)", x.acted(0), 15);
+        due("nested: acted(1)", x.acted(1), 0);
+        due("nested: acted(2)", x.acted(2), 112);
+        due("nested: acted(3)", x.acted(3), 1);
+        due("nested: idle()", x.idle(), 0);
+        due("nested: swap(0, 2)", x.swap(0, 2), 0);
+        due("nested, turned: reach(2)", x.reach(2), 1);
+        due("nested, turned: decided(0)", x.decided(0), 128);
+        due("nested, turned: decided(1)", x.decided(1), 0);
+        due("nested, turned: decided(2)", x.decided(2), 0);
+        due("nested, turned: idle()", x.idle(), 2);
+        due("nested, turned: undecided()", x.undecided(), 896);
+    }
+
+    private static void promise12ActionOfSeveralRules() {
+        PacketClassifier x = new PacketClassifier();
+        x.insert(0, prefix(0, 1), range(0, 0), ports(0, 7, 1));
+        x.insert(1, prefix(8, 1), range(1, 1), ports(0, 7, 1));
+        x.insert(2, ALL_SOURCES, range(0, 1), ports(0, 7, 0));
+        due("two rules of one action: acted(1)", x.acted(1), 128);
+        due("the rest: acted(0)", x.acted(0), 128);
+        due("no rule of it: acted(2)", x.acted(2), 0);
+    }
+
+    /** Two rules that cover a third one together, neither of them alone. */
+    private static void promise13IdleByTwo() {
+        PacketClassifier x = new PacketClassifier();
+        x.insert(0, prefix(0, 1), ALL_GOALS, ports(0, 7, 0));
+        x.insert(1, prefix(8, 1), ALL_GOALS, ports(0, 7, 1));
+        x.insert(2, ALL_SOURCES, range(3, 3), ports(3, 3, 2));
+        due("covered by two: idle()", x.idle(), 1);
+        due("covered by two: decided(2)", x.decided(2), 0);
+        due("covered by two: weight(2)", x.weight(2), 0);
+        due("covered by two: remove(0)", x.remove(0), 2);
+        due("uncovered in part: idle()", x.idle(), 0);
+        due("uncovered in part: decided(1)", x.decided(1), 8);
+    }
+
+    private static void promise14Weight() {
+        PacketClassifier x = nested();
+        due("nested: weight(0), another action", x.weight(0), 1);
+        due("nested: weight(1), another action", x.weight(1), 15);
+        due("nested: weight(2), undecided", x.weight(2), 112);
+        due("weight changes nothing: rules()", x.rules(), 3);
+        PacketClassifier y = new PacketClassifier();
+        y.insert(0, prefix(0, 1), ALL_GOALS, ports(0, 7, 0));
+        y.insert(1, prefix(0, 2), ALL_GOALS, ports(0, 3, 0));
+        y.insert(2, prefix(0, 2), ALL_GOALS, ports(0, 7, 1));
+        due("heirs of like and other action, and none: weight(0)", y.weight(0), 512 - 128);
+        due("decides nothing: weight(1)", y.weight(1), 0);
+        due("decides nothing: weight(2)", y.weight(2), 0);
+        y.swap(0, 1);
+        due("heir of the same action: weight(0)", y.weight(0), 0);
+        due("behind it: weight(1)", y.weight(1), 512 - 128);
+    }
+
+    /** The heir is the next rule that holds, not any later one. */
+    private static void promise14TheNextRuleInherits() {
+        PacketClassifier x = new PacketClassifier();
+        x.insert(0, prefix(3, 4), range(3, 3), ports(0, 7, 2));
+        x.insert(1, ALL_SOURCES, range(3, 3), ports(0, 3, 1));
+        x.insert(2, ALL_SOURCES, range(3, 3), ports(0, 7, 2));
+        due("weight(0)", x.weight(0), 4);
+        x.swap(1, 2);
+        due("weight(0), heirs turned", x.weight(0), 0);
+    }
+
+    private static void promise15Next() {
+        PacketClassifier x = nested();
+        due("nested: next(1, 0)", x.next(1, 0), packet(12, 6, 6));
+        due("nested: next(1, itself)", x.next(1, packet(12, 6, 6)), packet(12, 6, 6));
+        due("nested: next(1, behind it)", x.next(1, packet(12, 6, 6) + 1), packet(12, 6, 7));
+        due("nested: next(1, across goals)", x.next(1, packet(12, 6, 7) + 1), packet(12, 7, 6));
+        due("nested: next(1, across sources)", x.next(1, packet(12, 7, 7) + 1), packet(13, 6, 6));
+        due("nested: next(1, the last)", x.next(1, 1022), 1022);
+        due("nested: next(1, 1023), which rule 0 decides", x.next(1, 1023), -4);
+        due("nested: next(0, 1023)", x.next(0, 1023), 1023);
+        due("nested: next(2, 1023)", x.next(2, 1023), -4);
+        for (int from : new int[] {MIN, -1024, -1}) {
+            due("nested: next(2, " + from + ")", x.next(2, from), packet(8, 4, 4));
+        }
+        for (int from : new int[] {1024, 1025, MAX}) {
+            due("nested: next(0, " + from + ")", x.next(0, from), -4);
+        }
+        x.swap(0, 2);
+        due("idle rule: next(2, 0)", x.next(2, 0), -4);
+    }
+
+    private static void promise16Deepest() {
+        PacketClassifier x = nested();
+        due("nested: deepest()", x.deepest(), 3);
+        due("nested: remove(1)", x.remove(1), 2);
+        due("nested: deepest(), one less", x.deepest(), 2);
+        due("apart: deepest()", single(10).deepest(), 1);
+        PacketClassifier y = new PacketClassifier();
+        y.insert(0, prefix(0, 4), range(0, 0), ports(0, 0, 0));
+        y.insert(1, prefix(0, 4), range(0, 0), ports(0, 0, 0));
+        due("deepest at packet 0", y.deepest(), 2);
+    }
+
+    private static void promise17BadArgBeforeNone() {
+        PacketClassifier empty = new PacketClassifier();
+        PacketClassifier filled = nested();
+        for (int p : NO_PACKET) {
+            for (PacketClassifier x : new PacketClassifier[] {empty, filled}) {
+                String state = x.rules() + " rules: ";
+                due(state + "decide(" + p + ")", x.decide(p), -1);
+                due(state + "action(" + p + ")", x.action(p), -1);
+                due(state + "holding(" + p + ")", x.holding(p), -1);
+            }
+        }
+        due("no rule: decide(1023)", empty.decide(1023), -4);
+        due("no rule: action(0)", empty.action(0), -4);
+    }
+
+    private static void noSuchRuleOrAction() {
+        PacketClassifier x = single(10);
+        for (int r : NO_RULE) {
+            due("reach(" + r + ")", x.reach(r), -4);
+            due("decided(" + r + ")", x.decided(r), -4);
+            due("weight(" + r + ")", x.weight(r), -4);
+            due("next(" + r + ", 0)", x.next(r, 0), -4);
+            due("next(" + r + ", " + MAX + ")", x.next(r, MAX), -4);
+        }
+        for (int action : new int[] {MIN, -4, -1, 4, 5, MAX}) {
+            due("acted(" + action + ")", x.acted(action), -1);
+        }
+        PacketClassifier y = nested();
+        due("first number without a rule: reach(3)", y.reach(3), -4);
+        due("first number without a rule: decided(3)", y.decided(3), -4);
+        due("first number without a rule: weight(3)", y.weight(3), -4);
+        due("first number without a rule: next(3, 0)", y.next(3, 0), -4);
+        due("first number without a rule: remove(3)", y.remove(3), -4);
+    }
+
+    public static void main(String[] args) {
+        constants();
+        promise1NewObject();
+        promise2InsertMovesTheRest();
+        promise2EveryPrefix();
+        promise2EveryRangeAndAction();
+        promise2Refusals();
+        promise2Full();
+        promise3Remove();
+        promise4Swap();
+        promise4SwapCarriesAllParts();
+        promise5Rules();
+        promises6To8OnePacket();
+        promise8AllTen();
+        promises9To13Counts();
+        promise12ActionOfSeveralRules();
+        promise13IdleByTwo();
+        promise14Weight();
+        promise14TheNextRuleInherits();
+        promise15Next();
+        promise16Deepest();
+        promise17BadArgBeforeNone();
+        noSuchRuleOrAction();
+        System.out.println(wrong == 0 ? "all answers are as due" : wrong + " answers are not as due");
+        if (wrong != 0) {
+            System.exit(1);
+        }
+    }
+}
