@@ -338,6 +338,7 @@ public final class PromisesTest {
         due("nested: weight(1), another action", x.weight(1), 15);
         due("nested: weight(2), undecided", x.weight(2), 112);
         due("weight changes nothing: rules()", x.rules(), 3);
+        due("only packet 0: weight(0)", single(1).weight(0), 1);
         PacketClassifier y = new PacketClassifier();
         y.insert(0, prefix(0, 1), ALL_GOALS, ports(0, 7, 0));
         y.insert(1, prefix(0, 2), ALL_GOALS, ports(0, 3, 0));
