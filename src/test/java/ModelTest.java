@@ -5,7 +5,7 @@ import java.util.List;
  * Long mixed runs of calls, each answer compared with a second reading of the document that works
  * another way: it spells every rule out as the set of its packets, and weighs a rule by taking it out.
  */
-public final class ModelTest {
+public final class ModelTest extends Checks {
     private static final int RUNS = 400;
     // The document frees what calls after the 512th answer.
     private static final int CALLS = 512;
@@ -15,7 +15,6 @@ public final class ModelTest {
     };
 
     private static long seed;
-    private static int wrong = 0;
 
     /** One rule, spelled out. */
     private static final class Rule {
@@ -32,10 +31,6 @@ public final class ModelTest {
                 }
             }
             action = portsAndAction / 64;
-        }
-
-        private static String digits(int source) {
-            return Integer.toBinaryString(16 + source).substring(1);
         }
     }
 
@@ -171,10 +166,7 @@ public final class ModelTest {
     }
 
     private static void due(int run, String call, int got, int want) {
-        if (got != want) {
-            wrong++;
-            System.out.println("run " + run + ": " + call + " answered " + got + ", due is " + want);
-        }
+        due("run " + run + ": " + call, got, want);
     }
 
     private static void change(int run, PacketClassifier x, List<Rule> rules) {
@@ -250,13 +242,10 @@ public final class ModelTest {
     }
 
     public static void main(String[] args) {
-        for (int run = 0; run < RUNS && wrong < 20; run++) {
+        for (int run = 0; run < RUNS && wrongSoFar() < 20; run++) {
             seed = run;
             oneRun(run);
         }
-        System.out.println(wrong == 0 ? "all answers are as due" : wrong + " answers are not as due");
-        if (wrong != 0) {
-            System.exit(1);
-        }
+        finish();
     }
 }
